@@ -164,6 +164,16 @@ public final class OrderTest {
         proofIs("only round about above the pit", x, 2, 2);
         x.set(1, 0, 3);
         proofIs("a wall is no cut", x, 2, 2);
+        DigOrder y = Due.withUnits(12);
+        y.set(0, 1, 2);
+        proofIs("twelve layers", y, 0);
+        y.set(11, 0, 2);
+        y.tie(11, 0);
+        proofIs("above a layer alone", y, 2, 11);
+        y.set(0, 0, 4);
+        proofIs("above a pit", y, 0);
+        y.set(0, 0, 5);
+        proofIs("the least", y, 2, 0);
     }
 
     private static void proofPhases() {

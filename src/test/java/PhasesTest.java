@@ -165,6 +165,7 @@ public final class PhasesTest {
         DigOrder x = Due.withUnits(3);
         due.is("none has it", x.age(3, 0), DigOrder.NO);
         x.set(0, 4, 3);
+        ageIs("one of thickness 1", x, 1000.0);
         x.set(2, 4, 3);
         ageIs("two alike", x, 1000.0);
         x.set(0, 2, 3);
@@ -177,6 +178,9 @@ public final class PhasesTest {
         x.set(0, 2, 0);
         x.set(2, 1, 2);
         ageIs("0.0 times 7 and 0.5 times 2", x, 1.0 / 9.0);
+        x.set(0, 1, 99);
+        x.set(2, 1, 1);
+        ageIs("a small one", x, 0.5 / 100.0);
         x.set(0, 1, 0);
         ageIs("one half", x, 0.5);
         x.set(2, 1, 0);

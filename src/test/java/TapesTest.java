@@ -43,6 +43,9 @@ public final class TapesTest {
         x.tape(0, 1, 3);
         x.item(0, 0, 65536 + 700);
         due.is("its lowest bits", x.judge(0, 0), 1);
+        x.item(0, 0, 700);
+        x.tape(0, -1, 0);
+        due.is("nothing any more", x.judge(0, 0), 100);
         x.tape(0, 1, 60);
         x.item(0, 58, 700);
         x.item(0, 59, 700);
@@ -176,6 +179,9 @@ public final class TapesTest {
         due.is("behind it", x.item(0, 60, 5), -13);
         due.is("anew", x.tape(0, 3, 60), 1);
         due.is("all 0", x.peek(0, 59), 0);
+        x.item(0, 0, 5);
+        x.tape(0, 3, 2);
+        due.is("the first is 0, too", x.peek(0, 0), 0);
         due.is("n 0", x.tape(0, 4, 0), 1);
         due.is("no place", x.item(0, 0, 1), -13);
         due.is("a refusal", x.tape(0, 1, 61), DigOrder.BAD);

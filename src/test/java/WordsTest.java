@@ -9,6 +9,7 @@ public final class WordsTest {
         readFull();
         readFaults();
         readEight();
+        readBehindLonger();
         drawTies();
         drawLevels();
         paper();
@@ -109,6 +110,21 @@ public final class WordsTest {
         due.is("eight and a blank", Due.say(x, eight + " "), -171);
         due.is("a fault ahead of the ninth", Due.say(x, "b ober a;" + eight), -302);
         due.is("ties", x.told(1), 8);
+    }
+
+    /** Nothing of an earlier text may be left to be read. */
+    private static void readBehindLonger() {
+        DigOrder x = Due.withUnits(3);
+        String[] texts = {"a", "a ", "a ov", "a over", "a over ", "a over b;", ""};
+        int[] want = {-101, -102, -302, -106, -107, -109, -100};
+        for (int i = 0; i < texts.length; i++) {
+            Due.say(x, "a over b;a over c;b over c");
+            due.is("read of '" + texts[i] + "' behind a longer text", Due.say(x, texts[i]), want[i]);
+        }
+        String all = "a " + "over".repeat(24) + "ov";
+        due.is("bytes", all.length(), 100);
+        due.is("a verb up to the last byte", Due.say(x, all), -302);
+        due.is("ties", x.told(1), 3);
     }
 
     private static void drawTies() {
