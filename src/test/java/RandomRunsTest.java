@@ -6,7 +6,10 @@ import java.util.Comparator;
 import java.util.List;
 import java.util.Random;
 
-/** Promises 1 to 41: runs of up to 512 calls, always the same ones, held against Model. */
+/**
+ * Promises 1 to 41: runs of calls, always the same ones, held against Model. With the questions
+ * of askAll a run goes on past the 512 calls of the document, which DigOrder bears.
+ */
 public final class RandomRunsTest {
     private static final Due due = new Due("RandomRunsTest");
     private static final String[] TEXTS = {"a over b", "b cuts c", "c fills b", "d joins a", "a under e", "e over f",
