@@ -27,6 +27,9 @@ public final class TermsThreeTest {
         imageNone();
         imageOfNothing();
         imageOfAll();
+        imageDugInOrder();
+        imageTiesAsTheyCame();
+        imageKindAsHeld();
         imageSeen();
         imageEvents();
         imageStays();
@@ -489,6 +492,77 @@ public final class TermsThreeTest {
             due.is(stage + ": undo", x.undo(), units);
             due.is(stage + ": all is as the image", Look.at(x), was);
         }
+    }
+
+    /** "what was DUG in which order": not the order of numbers, nor that of a later digging. */
+    private static void imageDugInOrder() {
+        DigOrder x = Due.withUnits(5);
+        int[] row = {3, 0, 4, 1};
+        for (int u : row) {
+            x.dig(u);
+        }
+        x.image();
+        for (int k = 0; k < 4; k++) {
+            x.lay();
+        }
+        for (int u = 0; u < 5; u++) {
+            x.dig(u);
+        }
+        x.undo();
+        for (int k = 0; k < 4; k++) {
+            due.is("dug(" + k + ")", x.dug(k), row[k]);
+        }
+        due.is("no fifth", x.dug(4), -5);
+        for (int k = 3; k >= 0; k--) {
+            due.is("laid back", x.lay(), row[k]);
+        }
+    }
+
+    /** TIES are of the image as they came: what is idle and what fits is told in that order. */
+    private static void imageTiesAsTheyCame() {
+        DigOrder x = Due.withUnits(4);
+        int[][] row = {{0, 3}, {2, 3}, {0, 2}, {1, 2}, {1, 3}, {0, 1}};
+        for (int[] t : row) {
+            x.tie(t[0], t[1]);
+        }
+        x.image();
+        for (int a = 0; a < 4; a++) {
+            for (int b = a + 1; b < 4; b++) {
+                x.untie(a, b);
+                x.tie(a, b);
+            }
+        }
+        due.is("idle, as they came then", x.idle(0), 2);
+        x.undo();
+        due.is("idle", x.idle(0), 3);
+        due.is("idle", x.idle(1), 2);
+        due.is("idle", x.idle(2), 103);
+        due.is("no other", x.idle(3), -5);
+        for (int[] t : row) {
+            due.is("the first that fits", x.fits(1), 100 * t[0] + t[1]);
+            x.untie(t[0], t[1]);
+        }
+    }
+
+    /** TRAYS are of the image with the KIND as held, which needn't be the unit's any more. */
+    private static void imageKindAsHeld() {
+        DigOrder x = Due.withUnits(2);
+        x.set(0, 0, 4);
+        x.tray(1, 2, 0);
+        x.set(0, 0, 3);
+        x.tray(2, 0, 0);
+        x.set(0, 0, 0);
+        x.image();
+        x.set(0, 0, 1);
+        x.tray(1, 2, 0);
+        x.tray(2, 0, -1);
+        x.tray(0, 1, 1);
+        due.is("held anew", x.held(1, 2, 1), 1);
+        x.undo();
+        due.is("as held in tray 1", x.held(1, 2, 1), 4);
+        due.is("as held in tray 2", x.held(2, 0, 1), 3);
+        due.is("nothing there", x.held(0, 1, 0), -5);
+        due.is("its kind", x.of(0, 0), 0);
     }
 
     /** The rows that were seen come back, not how many alone. */
